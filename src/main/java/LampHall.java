@@ -602,7 +602,7 @@ public final class LampHall {
     /** What times the value is 1; 0 of 0. */
     private static int inverse(int value, int colours) {
         for (int other = 1; other < colours; other++) {
-            if (mod(value * other, colours) == 1) {
+            if (value * other % colours == 1) {
                 return other;
             }
         }
@@ -788,6 +788,7 @@ public final class LampHall {
         private static final int NUMBER = 2;
         private static final int SIGN = 3;
         private static final int NO_TOKEN = 4;
+        private static final int BLANK = 5;
 
         private static final int CANT_STAND = 1;
         private static final int TOO_MUCH = 2;
@@ -800,6 +801,7 @@ public final class LampHall {
         private static final int JAM = WIRE + 2;
 
         private final byte[] tape = new byte[TAPE];
+        private final int[] kinds = new int[TAPE];
         int fed = 0;
         int place = NONE;
         private int wrong = 0;
@@ -831,8 +833,13 @@ public final class LampHall {
             place = NONE;
             end = 0;
             into.clear();
+            findKinds();
             advance();
-            if (readHead(into) && readClauses(into)) {
+            boolean good = readHead(into);
+            for (int before = 0; good && kind != AT_END && before <= MOST_CLAUSES; before++) {
+                good = readClause(into, before);
+            }
+            if (good) {
                 into.layShapes();
             }
             return wrong;
@@ -891,18 +898,6 @@ public final class LampHall {
             return true;
         }
 
-        private boolean readClauses(Wiring into) {
-            for (int before = 0; before <= MOST_CLAUSES; before++) {
-                if (kind == AT_END) {
-                    return true;
-                }
-                if (!readClause(into, before)) {
-                    return false;
-                }
-            }
-            return false;
-        }
-
         private boolean readClause(Wiring into, int before) {
             int clause = clauseHere();
             if (clause == NONE) {
@@ -915,7 +910,16 @@ public final class LampHall {
                 return failAt(OTHER_KIND, start);
             }
             advance();
-            return readRest(clause, into) && readSign();
+            switch (clause) {
+                case WIRE:
+                    return readWire(into) && readSign();
+                case BUTTON:
+                    return readButton(into) && readSign();
+                case JAM:
+                    return readJam(into) && readSign();
+                default:
+                    return readShape(clause, into) && readSign();
+            }
         }
 
         private int clauseHere() {
@@ -953,20 +957,11 @@ public final class LampHall {
             return !net || clause <= Wiring.SIDE || clause > WIRE;
         }
 
-        private boolean readRest(int clause, Wiring into) {
-            if (clause == WIRE) {
-                return readWire(into);
-            }
-            if (clause == BUTTON) {
-                return readButton(into);
-            }
-            if (clause == JAM) {
-                return readJam(into);
-            }
+        private boolean readShape(int shape, Wiring into) {
             if (!readBy(into)) {
                 return false;
             }
-            into.addShape(clause, number);
+            into.addShape(shape, number);
             return true;
         }
 
@@ -1049,7 +1044,7 @@ public final class LampHall {
             }
             int value = 0;
             for (int i = start; i < end; i++) {
-                value = value * 10 + byteAt(i) - '0';
+                value = value * 10 + tape[i] - '0';
             }
             if (value < least || value > most) {
                 return failAt(otherwise, start);
@@ -1070,7 +1065,7 @@ public final class LampHall {
                 return false;
             }
             for (int i = 0; i < word.length(); i++) {
-                if (byteAt(start + i) != word.charAt(i)) {
+                if (tape[start + i] != word.charAt(i)) {
                     return false;
                 }
             }
@@ -1079,28 +1074,33 @@ public final class LampHall {
 
         private void advance() {
             start = end;
-            while (start < length && (byteAt(start) == ' ' || byteAt(start) == 10)) {
+            while (start < length && kinds[start] == BLANK) {
                 start++;
             }
-            kind = start < length ? kindOf(byteAt(start)) : AT_END;
-            end = Math.min(start + 1, length);
+            kind = start < length ? kinds[start] : AT_END;
+            end = start < length ? start + 1 : length;
             if (kind == WORD || kind == NUMBER) {
-                while (end < length && kindOf(byteAt(end)) == kind) {
+                while (end < length && kinds[end] == kind) {
                     end++;
                 }
             }
         }
 
-        private int byteAt(int i) {
-            return i >= 0 && i < TAPE ? tape[i] & 255 : 0;
+        private void findKinds() {
+            for (int i = 0; i < length; i++) {
+                kinds[i] = kindOf(tape[i]);
+            }
         }
 
-        private static int kindOf(int sign) {
+        private static int kindOf(byte sign) {
             if (sign >= 'a' && sign <= 'z') {
                 return WORD;
             }
             if (sign >= '0' && sign <= '9') {
                 return NUMBER;
+            }
+            if (sign == ' ' || sign == '\n') {
+                return BLANK;
             }
             return sign == ';' ? SIGN : NO_TOKEN;
         }
