@@ -79,6 +79,14 @@ public final class PulseTest {
         for (int what : new int[] {-1, 2, Integer.MIN_VALUE}) {
             CHECK.none("round(" + what + ")", () -> x.round(what));
         }
+        LampHall z = CHECK.hall("colours 5;net 36;self by 4;button 34 at 35;button 35 at 34;button 0 at 17;button 17 at 0;");
+        z.set(35, 0, 1);
+        comesRound(z, 0, 2);
+        z.fill(0, 0);
+        z.set(17, 0, 4);
+        comesRound(z, 0, 2);
+        z.set(1, 0, 1);
+        comesRound(z, 1, 2);
     }
 
     private static void roundFollowsWhatChanges() {
@@ -112,6 +120,8 @@ public final class PulseTest {
         comesRound(y, -1, -1);
         y.set(8, 0, 0);
         comesRound(y, 0, 300);
+        y.set(8, 0, 3);
+        comesRound(y, -1, -1);
         LampHall z = CHECK.hall("colours 5;board 6 6 both;self;side by 2;leap;");
         z.draw(3);
         int after = z.round(0);

@@ -29,8 +29,8 @@ public final class RandomTest {
     private void run() {
         tell(random.nextInt(4) == 0);
         for (int i = 0; i < 60; i++) {
-            if (random.nextInt(30) == 0) {
-                tell(true);
+            if (random.nextInt(20) == 0) {
+                tell(random.nextBoolean());
             }
             call(random.nextInt(31));
         }

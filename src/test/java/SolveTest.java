@@ -9,6 +9,7 @@ public final class SolveTest {
         spent();
         noneBeforeSpent();
         spentLimits();
+        mostFreeButtons();
         times();
         apply();
         applyOfJammed();
@@ -116,6 +117,18 @@ public final class SolveTest {
             LampHall y = CHECK.hall("colours " + one[0] + ";net " + (one[1] + 1) + ";");
             CHECK.due("spent", y.solve(1), -2);
         }
+    }
+
+    private static void mostFreeButtons() {
+        LampHall x = CHECK.hall("colours 2;net 16;button 13 at 0;button 13 at 1;button 14 at 1;button 15 at 0;");
+        CHECK.due("bound", x.bound(0, -1), 14);
+        x.set(0, 1, 1);
+        x.set(1, 1, 1);
+        solved(x, 0, 1, "0000000000000100");
+        LampHall y = CHECK.hall("colours 2;net 16;button 0 at 0;button 0 at 1;button 14 at 1;button 15 at 0;");
+        y.set(0, 1, 1);
+        y.set(1, 1, 1);
+        solved(y, 0, 1, "1000000000000000");
     }
 
     private static void times() {

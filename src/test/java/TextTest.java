@@ -10,6 +10,7 @@ public final class TextTest {
         tapeIsUsedUp();
         hallRefusesWhatTheTapeHasNot();
         hallBeginsAnew();
+        nothingOfOldHallsIsLeft();
         faultLeavesAll();
         faultsOfHeads();
         faultsOfClauses();
@@ -116,6 +117,36 @@ public final class TextTest {
         CHECK.due("fault", x.fault(), -1);
     }
 
+    /** Of what an earlier hall, or a text with a fault behind it, was told nothing comes again. */
+    private static void nothingOfOldHallsIsLeft() {
+        String full = "self;side;jam 0;jam 2;button 0 at 0;button 1 at 2 by 2;button 2 at 0;";
+        String[] wirings = {"colours 3;net 3;wire 0 1;wire 1 2;wire 2 0;" + full, "colours 5;board 3 1 both;row;" + full};
+        String[] bare = {"colours 3;net 3;side;", "colours 3;board 3 1;"};
+        for (String wiring : wirings) {
+            for (String text : bare) {
+                LampHall x = new LampHall();
+                for (int i = 0; i < 3; i++) {
+                    CHECK.due("hall", Check.tell(x, wiring), 0);
+                    for (int slot = 0; slot < 4; slot++) {
+                        x.keep(slot);
+                    }
+                }
+                CHECK.due("hall with a fault", Check.tell(x, wiring + "jam 3;"), 4);
+                CHECK.due("hall", Check.tell(x, text), 0);
+                CHECK.due("columns", x.count(2), text == bare[0] ? 0 : 3);
+                CHECK.due("rows", x.count(3), text == bare[0] ? 0 : 1);
+                CHECK.due("edges", x.count(4), text == bare[0] ? -1 : 0);
+                CHECK.due("jams", x.count(7), 0);
+                for (int button = 0; button < 3; button++) {
+                    CHECK.due("amounts by " + button, amounts(x, button), "000");
+                }
+                for (int slot = 0; slot < 4; slot++) {
+                    CHECK.due("slot " + slot, x.take(slot, 0), false);
+                }
+            }
+        }
+    }
+
     private static void faultLeavesAll() {
         LampHall x = usedHall();
         CHECK.due("hall", Check.tell(x, "colours 5;net 3;jam 3;"), 4);
@@ -215,6 +246,12 @@ public final class TextTest {
         faulty(net + "jam 1;" + (char) 233, 1, 22);
         faulty(net + "jam 1;" + (char) 0, 1, 22);
         faulty(net + "selF;", 1, 16);
+        faulty(net + "xelf;", 1, 16);
+        faulty(net + "selx;", 1, 16);
+        faulty(net + "selfz;", 1, 16);
+        faulty(net + "self{;", 1, 20);
+        faulty(net + "self`;", 1, 20);
+        faulty(net + "jam 1/;", 1, 21);
         faulty(net + "jam -1;", 1, 20);
     }
 
