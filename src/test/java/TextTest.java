@@ -303,6 +303,15 @@ public final class TextTest {
         faulty("colours 2;board 3", 1, 17);
         faulty("colours 2;board 3 3", 1, 19);
         faulty("colours 2;net 3;self by", 1, 23);
+        String blanks = " ".repeat(480);
+        faulty(blanks + "colours 2;net 3;self", 1, 500);
+        faulty(blanks + "colours 2;net 3;jam2", 1, 500);
+        faulty(blanks + "colours 2;board 2 1;", 0, 0);
+        LampHall x = new LampHall();
+        CHECK.due("a longer text", Check.tell(x, "colours 2;net 3;selfside"), 1);
+        CHECK.due("its place", x.fault(), 16);
+        CHECK.due("a text that ends inside of it", Check.tell(x, "colours 2;net 3;self"), 1);
+        CHECK.due("its place", x.fault(), 20);
     }
 
     private static void blanks() {
