@@ -32,7 +32,7 @@ public final class LampHall {
     private final int[] keptNearest = new int[MOST_LAMPS];
     private boolean nearestKept;
     private final Search search = new Search();
-    private Walk walk;
+    private final Walk walk = new Walk();
     private final Cycle cycle = new Cycle();
     private final int[] scratch = new int[MOST_LAMPS];
     private final int[] numbers = new int[MOST_LAMPS];
@@ -279,7 +279,7 @@ public final class LampHall {
             return TOO_MANY;
         }
         if (!algebra.needsFresh) {
-            algebra.findNeeds(wiring, walker());
+            algebra.findNeeds(wiring, walk);
             litFresh = false;
         }
         if (k == NONE) {
@@ -358,15 +358,14 @@ public final class LampHall {
         if (exceeds(wiring.colours, wiring.lamps, MOST_LIT_STATES)) {
             return TOO_MANY;
         }
-        Walk ways = walker();
         if (!litFresh) {
-            walkLit(ways);
+            walkLit();
             litFresh = true;
         }
         if (what == 0) {
-            return ways.targetLevel;
+            return walk.targetLevel;
         }
-        return what == 1 ? ways.targetFirst : ways.total;
+        return what == 1 ? walk.targetFirst : walk.total;
     }
 
     public int game() {
@@ -375,7 +374,7 @@ public final class LampHall {
             return TOO_MANY;
         }
         // What was pressed tells THE STATE, so the sets of pressed buttons are gone through, the fullest first.
-        int[] won = walker().mark;
+        int[] won = walk.mark;
         litFresh = false;
         int all = (1 << n) - 1;
         System.arraycopy(state, 0, scratch, 0, MOST_LAMPS);
@@ -555,21 +554,14 @@ public final class LampHall {
         return number;
     }
 
-    private Walk walker() {
-        if (walk == null) {
-            walk = new Walk();
-        }
-        return walk;
-    }
-
-    private void walkLit(Walk ways) {
-        ways.begin(wiring.lamps, wiring.colours);
+    private void walkLit() {
+        walk.begin(wiring.lamps, wiring.colours);
         for (int button = 0; button < wiring.lamps; button++) {
             if (!wiring.jammed[button]) {
-                ways.addMove(button, wiring.amounts[button], button);
+                walk.addMove(button, wiring.amounts[button], button);
             }
         }
-        ways.go(ways.codeOf(state), ways.codeOf(wish));
+        walk.go(walk.codeOf(state), walk.codeOf(wish));
     }
 
     /** The least button that leaves a lost game to the other; scratch has the colours behind what was pressed. */
