@@ -1,4 +1,7 @@
+import java.io.IOException;
 import java.nio.charset.StandardCharsets;
+import java.nio.file.Files;
+import java.nio.file.Path;
 
 /** Counts what is not as due, and lays texts on a hall's tape. */
 final class Check {
@@ -7,7 +10,11 @@ final class Check {
         Object answer();
     }
 
+    /** The document that tests quote, its blanks made one; empty if it isn't there. */
+    private static final String DOCUMENT = document();
+
     private final String name;
+    private String sentence = "";
     private int wrong = 0;
     private int seen = 0;
 
@@ -19,8 +26,25 @@ final class Check {
         seen++;
         if (!got.equals(want)) {
             wrong++;
-            System.out.println(name + ": " + call + " answered " + got + ", due is " + want);
+            System.out.println(name + ": " + sentence + call + " answered " + got + ", due is " + want);
         }
+    }
+
+    /** A test of one sentence of the document (0 stands for its terms, a number for that promise), told in its words. */
+    void sentence(int promise, String words, Runnable test) {
+        if (Boolean.getBoolean("quotes")) {
+            System.out.println("quote " + promise + ": " + words);
+        }
+        sentence = "[" + promise + ": " + words + "] ";
+        due("whether the document has these words", DOCUMENT.isEmpty() || section(promise).contains(words), true);
+        int before = seen;
+        try {
+            test.run();
+        } catch (RuntimeException | StackOverflowError thrown) {
+            due("the test", thrown.toString(), "no exception");
+        }
+        due("whether the test asks anything", seen > before, true);
+        sentence = "";
     }
 
     /** The call's answer, or the simple name of what it throws. */
@@ -32,8 +56,28 @@ final class Check {
         }
     }
 
+    private static String document() {
+        Path file = Path.of(System.getProperty("doc", "../shared/DOC.md"));
+        try {
+            return Files.exists(file) ? Files.readString(file).replaceAll("\\s+", " ") : "";
+        } catch (IOException unreadable) {
+            return "";
+        }
+    }
+
+    /** What a promise says, or with 0 all that stands ahead of the first. */
+    private static String section(int promise) {
+        int from = promise == 0 ? 0 : DOCUMENT.indexOf("## Promise " + promise + ":");
+        int to = DOCUMENT.indexOf("## ", DOCUMENT.indexOf("## Promise " + Math.max(1, promise) + ":") + (promise == 0 ? 0 : 3));
+        return from < 0 || to < from ? "" : DOCUMENT.substring(from, to);
+    }
+
     void none(String call, Call it) {
         due(call, answer(it), "NoSuchElementException");
+    }
+
+    void illegal(String call, Call it) {
+        due(call, answer(it), "IllegalArgumentException");
     }
 
     /** A new hall of a text, which has no fault. */
@@ -73,6 +117,22 @@ final class Check {
         StringBuilder row = new StringBuilder();
         for (int lamp = 0; lamp < x.count(0); lamp++) {
             row.append(x.colour(lamp, what));
+        }
+        return row.toString();
+    }
+
+    static String amounts(LampHall x, int button) {
+        StringBuilder row = new StringBuilder();
+        for (int lamp = 0; lamp < x.count(0); lamp++) {
+            row.append(x.amount(button, lamp));
+        }
+        return row.toString();
+    }
+
+    static String nearest(LampHall x) {
+        StringBuilder row = new StringBuilder();
+        for (int lamp = 0; lamp < x.count(0); lamp++) {
+            row.append(x.near(lamp));
         }
         return row.toString();
     }
