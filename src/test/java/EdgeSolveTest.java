@@ -204,6 +204,25 @@ public final class EdgeSolveTest {
         LampHall z = CHECK.hall("colours 5;net 36;self;");
         z.fill(1, 1);
         CHECK.due("own ones don't count", z.solve(0), 36);
+        for (int[] power : POWERS) {
+            mostBoundAllSought(power[0], power[1]);
+        }
+    }
+
+    /** So many are bound as may be: of those that may be pressed or not the last does at once what two others do. */
+    private static void mostBoundAllSought(int q, int bound) {
+        StringBuilder text = new StringBuilder("colours " + q + ";net " + (bound + 2) + ";");
+        for (int button = 0; button <= bound; button++) {
+            text.append("button ").append(button).append(" at 0;");
+        }
+        text.append("button ").append(bound - 1).append(" at 1;button ").append(bound + 1).append(" at 1;");
+        LampHall x = CHECK.hall(text.toString());
+        CHECK.due("bound", x.bound(0, -1), bound);
+        x.set(0, 1, 1);
+        x.set(1, 1, 1);
+        for (int kind = 0; kind < 3; kind++) {
+            solved(x, kind, 1, "0".repeat(bound - 1) + "100");
+        }
     }
 
     private static void not0InAny() {
@@ -260,6 +279,12 @@ public final class EdgeSolveTest {
             x.draw(7);
             x.fill(1, 1);
         }
+        // Each lamp alone or both at once: as many presses as the more of the two.
+        LampHall y = CHECK.hall("colours 5;net 3;button 0 at 0;button 1 at 1;button 2 at 0;button 2 at 1;");
+        for (int k = 0; k < 5; k++) {
+            CHECK.due("both at once, " + k, y.hard(k), 2 * k + 1);
+        }
+        CHECK.due("the most", y.hard(-1), 4);
     }
 
     private static void atMost10000() {

@@ -220,10 +220,31 @@ public final class EdgeTextTest {
         faulty(NET + "sel;", 1, 16);
         faulty(NET + "jamjam 0;", 1, 16);
         faulty(NET + "self by1by;", 1, 24);
+        oneLetterOff();
         // What stands next to a and z, small and great, is no letter: the word ends ahead of it.
         for (char sign : new char[] {96, 123, 'A', 'Z', 64, 91, '_', '-', (char) 225, (char) 250}) {
             faulty(NET + "self" + sign + ";", 1, 20);
             faulty(NET + sign + "self;", 1, 16);
+        }
+    }
+
+    /** A word with another letter anywhere, one less or one more is another word. */
+    private static void oneLetterOff() {
+        String[] texts = {"colours 3;board 2 2 ring;self;side;slant;leap;row;column;button 0 at 1 by 2;jam 3;",
+            "colours 3;board 2 2 both;", "colours 3;net 3;wire 0 1;"};
+        for (String text : texts) {
+            right(text);
+            int word = 0;
+            for (int at = 0; at < text.length(); at++) {
+                boolean letter = Character.isLetter(text.charAt(at));
+                word = letter ? word : at + 1;
+                if (letter) {
+                    faulty(text.substring(0, at) + 'q' + text.substring(at + 1), 1, word);
+                    faulty(text.substring(0, at) + 'q' + text.substring(at), 1, word);
+                    faulty(text.substring(0, at) + text.substring(at + 1), 1, word);
+                    faulty(text.substring(0, at + 1) + 'q' + text.substring(at + 1), 1, word);
+                }
+            }
         }
     }
 
@@ -846,6 +867,12 @@ public final class EdgeTextTest {
         CHECK.due("its place", x.fault(), 0);
         CHECK.due("lamps", x.count(0), 4);
         CHECK.due("hall(0) of an empty tape", x.hall(0), 1);
+        // Of a tape that begins with a blank none belongs to the text, or just that one.
+        for (int n : new int[] {0, 1, 2}) {
+            feed(x, "\n colours 2;net 5;  ");
+            CHECK.due("hall(" + n + ") of blanks", x.hall(n), 1);
+            CHECK.due("its place", x.fault(), n);
+        }
     }
 
     private static void emptyThen() {
@@ -922,6 +949,44 @@ public final class EdgeTextTest {
         CHECK.due("jams of the former hall", y.count(7), 0);
         CHECK.due("amounts of the former hall", Check.amounts(y, 0), "0000");
         CHECK.due("edges of the former hall", y.count(4), -1);
+        nothingOfEarlierHalls();
+    }
+
+    /** Whatever was told before, by a text with a fault or without, a text tells what it tells to a new object. */
+    private static void nothingOfEarlierHalls() {
+        String[] texts = {"colours 5;board 6 6 both;self by 2;side by 3;slant;leap by 4;row;column by 2;button 35 at 0;jam 0;jam 35;",
+            "colours 3;net 36;self;side by 2;wire 0 35;wire 1 2;button 0 at 35 by 2;jam 0;jam 1;", "colours 2;net 2;",
+            "colours 5;net 2;wire 0 1;", "colours 5;net 2;side;", "colours 5;board 2 1;", "colours 5;net 36;jam 36;",
+            "colours 5;board 6 6 both;self;row;jam 0;x", "colours 2;net 36;", "colours 3;board 1 2 ring;", "colours 5;board 6 6;side;"};
+        for (String first : texts) {
+            for (String second : texts) {
+                for (String third : texts) {
+                    LampHall x = new LampHall();
+                    Check.tell(x, first);
+                    Check.tell(x, second);
+                    LampHall fresh = new LampHall();
+                    if (Check.tell(fresh, third) == 0) {
+                        Check.tell(x, third);
+                        CHECK.due(third + " behind " + first + " and " + second, told(x), told(fresh));
+                    }
+                }
+            }
+        }
+    }
+
+    /** All that a text has told. */
+    private static String told(LampHall x) {
+        StringBuilder all = new StringBuilder();
+        for (int what = 0; what < 8; what++) {
+            all.append(x.count(what)).append(' ');
+        }
+        for (int button = 0; button < x.count(0); button++) {
+            all.append(Check.amounts(x, button)).append(' ');
+            boolean was = x.jam(button, false);
+            x.jam(button, was);
+            all.append(was).append(' ');
+        }
+        return all.append(x.rank()).append(' ').append(x.bound(1, -1)).toString();
     }
 
     private static void refused(LampHall x, int n, int bytes) {
