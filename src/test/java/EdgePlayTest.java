@@ -301,6 +301,28 @@ public final class EdgePlayTest {
         litIs(y, 8, 0, 25);
         y.set(0, 1, 2);
         litIs(y, 5, 0, 25);
+        longWays();
+    }
+
+    /** Far more presses than any difference needs with buttons that always work; numbers by a plain walk outside the class. */
+    private static void longWays() {
+        LampHall x = CHECK.hall("colours 5;net 6;button0at0by4;button0at5by3;button1at0;button1at1by3;button2at2by2;button2at4by3;"
+            + "button3at2by3;button3at3;button4at1by4;button4at4by2;button5at3by4;button5at5by2;");
+        CHECK.row(x, 0, "023400");
+        CHECK.row(x, 1, "412122");
+        litIs(x, 173, 1, 15624);
+        LampHall y = CHECK.hall("colours 2;net 12;button0at0;button0at5;button1at1;button1at8;button2at7;button2at10;button3at6;"
+            + "button4at3;button4at4;button5at5;button5at11;button6at3;button6at9;button7at0;button7at2;button7at7;button8at1;"
+            + "button9at2;button9at6;button9at8;button9at9;button10at2;button11at4;button11at8;button11at11;");
+        CHECK.row(y, 0, "000000001010");
+        CHECK.row(y, 1, "110011010111");
+        litIs(y, 120, 8, 4092);
+        LampHall z = CHECK.hall("colours 3;net 8;button0at0;button0at2by2;button1at1;button1at5by2;button2at2;button2at6by2;"
+            + "button3at3by2;button3at7by2;button4at1by2;button4at4;button5at3;button5at5by2;button6at0;button6at6;button7at4by2;"
+            + "button7at7;");
+        CHECK.row(z, 0, "00200100");
+        CHECK.row(z, 1, "21121111");
+        litIs(z, 77, 2, 6292);
     }
 
     private static void leastFirst() {
