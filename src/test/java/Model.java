@@ -12,7 +12,7 @@ import java.util.Set;
 import java.util.TreeMap;
 
 /** The document's words by the plainest means: all rows, all states, all sums are gone through one by one. */
-final class Model {
+class Model {
     int q = 2;
     int n = 0;
     int w = 0;
@@ -254,21 +254,26 @@ final class Model {
         if (Math.pow(q, rank()) > 10000) {
             return -2;
         }
+        int most = 0;
+        int many = 0;
+        for (int made : fewestFrom(rowOf(0)).values()) {
+            most = Math.max(most, made);
+            many += made == k ? 1 : 0;
+        }
+        return k == -1 ? most : many;
+    }
+
+    /** All states that can be made of one, each with the fewest presses that do. */
+    Map<List<Integer>, Integer> fewestFrom(List<Integer> start) {
         Map<List<Integer>, Integer> fewest = new HashMap<>();
         for (List<Integer> numbers : allRows()) {
             int made = 0;
             for (int number : numbers) {
                 made += number;
             }
-            fewest.merge(behind(rowOf(0), numbers), made, Math::min);
+            fewest.merge(behind(start, numbers), made, Math::min);
         }
-        int most = 0;
-        int many = 0;
-        for (int made : fewest.values()) {
-            most = Math.max(most, made);
-            many += made == k ? 1 : 0;
-        }
-        return k == -1 ? most : many;
+        return fewest;
     }
 
     int nearest() {
@@ -276,8 +281,7 @@ final class Model {
             return -2;
         }
         List<Integer> best = null;
-        for (List<Integer> numbers : allRows()) {
-            List<Integer> made = behind(state, numbers);
+        for (List<Integer> made : fewestFrom(state).keySet()) {
             if (best == null || unlike(made) < unlike(best) || unlike(made) == unlike(best) && isBefore(made, best)) {
                 best = made;
             }
@@ -379,7 +383,7 @@ final class Model {
         return far;
     }
 
-    private List<Integer> litButtons(List<Integer> from) {
+    List<Integer> litButtons(List<Integer> from) {
         List<Integer> may = working();
         may.removeIf(button -> from.get(button) == 0);
         return may;
@@ -389,7 +393,7 @@ final class Model {
         return n > 12 ? -2 : winning(state, new HashSet<>());
     }
 
-    private int winning(List<Integer> from, Set<Integer> used) {
+    int winning(List<Integer> from, Set<Integer> used) {
         for (int button : litButtons(from)) {
             if (used.add(button)) {
                 int answer = winning(stepped(from, button, 1), used);
@@ -462,7 +466,7 @@ final class Model {
         return true;
     }
 
-    private static void need(boolean there) {
+    static void need(boolean there) {
         if (!there) {
             throw new NoSuchElementException();
         }
@@ -472,7 +476,7 @@ final class Model {
         return lamp >= 0 && lamp < n;
     }
 
-    private List<Integer> rowOf(int colour) {
+    List<Integer> rowOf(int colour) {
         List<Integer> row = new ArrayList<>();
         for (int lamp = 0; lamp < n; lamp++) {
             row.add(colour);
@@ -497,7 +501,7 @@ final class Model {
         }
     }
 
-    private List<Integer> stepped(List<Integer> from, int button, int often) {
+    List<Integer> stepped(List<Integer> from, int button, int often) {
         List<Integer> to = new ArrayList<>();
         for (int lamp = 0; lamp < n; lamp++) {
             to.add((from.get(lamp) + often * amounts[button][lamp]) % q);
@@ -505,7 +509,7 @@ final class Model {
         return to;
     }
 
-    private List<Integer> behind(List<Integer> from, List<Integer> numbers) {
+    List<Integer> behind(List<Integer> from, List<Integer> numbers) {
         List<Integer> to = from;
         for (int button = 0; button < n; button++) {
             to = numbers.get(button) == 0 ? to : stepped(to, button, numbers.get(button));
@@ -513,7 +517,7 @@ final class Model {
         return to;
     }
 
-    private List<Integer> working() {
+    List<Integer> working() {
         List<Integer> buttons = new ArrayList<>();
         for (int button = 0; button < n; button++) {
             if (!jammed[button]) {
@@ -571,14 +575,15 @@ final class Model {
         return rows;
     }
 
-    private List<List<Integer>> leading() {
+    /** All rows that lead, the first as a row first. */
+    List<List<Integer>> leading() {
         List<List<Integer>> rows = allRows();
         rows.removeIf(numbers -> !behind(state, numbers).equals(wish));
         return rows;
     }
 
     /** Of each bound button (what 0) or lamp (1) the numbers by which it and lesser ones are nothing together. */
-    private Map<Integer, List<Integer>> ties(int what) {
+    Map<Integer, List<Integer>> ties(int what) {
         Map<Integer, List<Integer>> ties = new TreeMap<>();
         Map<List<Integer>, List<Integer>> sums = new HashMap<>();
         sums.put(rowOf(0), rowOf(0));

@@ -1,6 +1,6 @@
 import java.util.Random;
 
-/** Random runs of calls on small halls, every answer against the plain model's. */
+/** Random runs of calls on small halls, every answer against the plain model's; WideTest has them on large ones. */
 public final class RandomTest {
     private static final String[] SHAPES = {"self", "side", "slant", "leap", "row", "column"};
     private static final int[] WILD = {-1, -2, 4, 7, 36, 99, Integer.MAX_VALUE, Integer.MIN_VALUE};
@@ -8,29 +8,39 @@ public final class RandomTest {
     private final Random random;
     private final Check check;
     private final LampHall x = new LampHall();
-    private final Model model = new Model();
+    private final Model model;
+    private final boolean wide;
     private final StringBuilder calls = new StringBuilder();
 
-    private RandomTest(long seed, Check check) {
+    private RandomTest(long seed, Check check, boolean wide) {
         random = new Random(seed);
         this.check = check;
+        this.wide = wide;
+        model = wide ? new WideModel() : new Model();
     }
 
     public static void main(String[] args) {
-        Check check = new Check("RandomTest");
-        int runs = args.length > 0 ? Integer.parseInt(args[0]) : 1500;
+        runAll(new Check("RandomTest"), args, 1500, false);
+    }
+
+    /** As many runs from that seed on as the arguments say. */
+    static void runAll(Check check, String[] args, int otherwise, boolean wide) {
+        int runs = args.length > 0 ? Integer.parseInt(args[0]) : otherwise;
         long from = args.length > 1 ? Long.parseLong(args[1]) : 0;
         for (long seed = from; seed < from + runs; seed++) {
-            new RandomTest(seed, check).run();
+            new RandomTest(seed, check, wide).run();
         }
         check.end();
     }
 
     private void run() {
-        tell(random.nextInt(4) == 0);
+        tell(!wide && random.nextInt(4) == 0);
         for (int i = 0; i < 60; i++) {
             if (random.nextInt(20) == 0) {
                 tell(random.nextBoolean());
+            }
+            if (wide && random.nextInt(4) == 0) {
+                wishWhatLeads();
             }
             call(random.nextInt(31));
         }
@@ -61,7 +71,7 @@ public final class RandomTest {
 
     private String text(boolean faulty) {
         int q = new int[] {2, 3, 5}[random.nextInt(3)];
-        int most = q == 2 ? 9 : q == 3 ? 6 : 4;
+        int most = wide ? 36 : q == 2 ? 9 : q == 3 ? 6 : 4;
         StringBuilder text = new StringBuilder("colours ").append(q).append(';');
         boolean net = random.nextInt(3) == 0;
         int n;
@@ -76,10 +86,34 @@ public final class RandomTest {
             text.append(new String[] {"", " ring", " both"}[random.nextInt(3)]).append(';');
         }
         int clauses = random.nextInt(faulty && random.nextInt(6) == 0 ? 50 : 8);
+        if (wide) {
+            text.append(SHAPES[random.nextInt(net ? 1 : SHAPES.length)]).append(';');
+        }
         for (int i = 0; i < clauses; i++) {
             clause(text, net, n, q);
         }
+        if (wide) {
+            jams(text, clauses, n);
+        }
         return faulty ? spoilt(text) : text.toString();
+    }
+
+    /** So many that few are left of large halls, too. */
+    private void jams(StringBuilder text, int clauses, int n) {
+        int most = Math.min(random.nextInt(n), 39 - clauses);
+        for (int i = 0; i < most; i++) {
+            text.append("jam ").append(random.nextInt(n)).append(';');
+        }
+    }
+
+    /** What is there becomes the wish, and presses lead away from it. */
+    private void wishWhatLeads() {
+        both("keep 3", () -> x.keep(3), () -> model.keep(3));
+        both("take 3 1", () -> x.take(3, 1), () -> model.take(3, 1));
+        for (int i = random.nextInt(30); i > 0 && model.n > 0; i--) {
+            int button = random.nextInt(model.n);
+            both("press " + button, () -> x.press(button), () -> model.press(button));
+        }
     }
 
     private void clause(StringBuilder text, boolean net, int n, int q) {
